@@ -504,24 +504,20 @@ public final class MarginAlbum {
         int readNumber(int mostDigits) {
             numberAt = at;
             int value = 0;
-            int digits = 0;
-            int wrong = 0;
-            while (wrong == 0 && at >= 0 && at < end && at < bytes.length && bytes[at] >= '0' && bytes[at] <= '9') {
-                if (digits == mostDigits) {
-                    wrong = TOO_MANY_DIGITS;
-                } else {
-                    value = 10 * value + bytes[at] - '0';
-                    digits++;
-                    at++;
-                }
+            for (int digits = 0; digits < mostDigits && isAtDigit(); digits++) {
+                value = 10 * value + peek() - '0';
+                at++;
             }
-            if (digits == 0) {
-                wrong = MISPLACED;
-            }
-            if (wrong != 0 && fault == 0) {
-                fault = -1000 * wrong - at;
+            if (at == numberAt) {
+                refuseAt(MISPLACED, at);
+            } else if (isAtDigit()) {
+                refuseAt(TOO_MANY_DIGITS, at);
             }
             return value;
+        }
+
+        private boolean isAtDigit() {
+            return at >= 0 && at < end && at < bytes.length && bytes[at] >= '0' && bytes[at] <= '9';
         }
     }
 
@@ -946,21 +942,19 @@ public final class MarginAlbum {
             }
         }
 
-        private static long joined(int sign, long a, long b) {
+        private static long joined(int sign, long left, long right) {
             // where the left one settles it, the right one is not asked: what it was refused doesn't matter
             if (sign == '&') {
-                return a == 1 ? b : a;
+                return left == 1 ? right : left;
             }
             if (sign == '|') {
-                return a == 0 ? b : a;
+                return left == 0 ? right : left;
             }
-            if (a == REFUSED || b == REFUSED) {
+            if (left == REFUSED || right == REFUSED) {
                 return REFUSED;
             }
-            return reckoned(sign, (int) a, (int) b);
-        }
-
-        private static long reckoned(int sign, int a, int b) {
+            int a = (int) left;
+            int b = (int) right;
             switch (sign) {
                 case '+':
                     return a + b;

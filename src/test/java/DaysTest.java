@@ -177,6 +177,9 @@ public final class DaysTest {
         BENCH.due("a cut of one row stays", album.days(1), 16);
         BENCH.due("but it slipped", album.album(1, 5), 1);
         BENCH.due("its top", album.album(1, 1), 0);
+        Bench.print(album, "a0,2:16x10;b0,1:1x1");
+        BENCH.due("a cut of two rows loses one", album.days(1), 16);
+        BENCH.due("its top", album.album(1, 1), 1);
         Bench.print(album, "a0,0:1x1;b0,1:1x1");
         album.pain(0, 0);
         album.days(1);
@@ -252,6 +255,10 @@ public final class DaysTest {
         BENCH.due("it counts", album.count(5), 1);
         BENCH.due("nobody showed", album.personIs(1, 3), 0);
         BENCH.due("slips of no cut", album.tried(2, 1), 2);
+        Bench.print(album, "a0,0:15x12;a15,0:1x11;b15,11:1x1");
+        BENCH.due("one cell", album.days(1), 1);
+        BENCH.due("who is in it", album.album(1, 4), 2);
+        BENCH.due("who is in it", album.tried(1, 3), 2);
     }
 
     private static void longTimes() {
@@ -270,12 +277,16 @@ public final class DaysTest {
         Bench.law(album, "wd(p=5)");
         BENCH.due("the day is told modulo 100", album.tried(1, 15), 29);
         album.pain(0, 0);
-        for (int day = 129; day + 30 <= 9999; day += 30) {
+        for (int day = 129; day + 30 < 9999; day += 30) {
             album.days(30);
         }
-        BENCH.due("days gone by", album.count(0), 9999 - (9999 - 129) % 30);
-        album.days(30);
+        album.days(20);
+        BENCH.due("days gone by", album.count(0), 9989);
+        BENCH.due("tried while days are left", album.tried(1, 3), 1);
+        BENCH.due("as many as can are tried", album.tried(30, 0), 10 * 192);
+        BENCH.due("as many as can go by", album.days(30), 10 * 192);
         BENCH.due("the last day", album.count(0), 9999);
+        BENCH.due("the last ones", album.album(30, 2), 16);
         int x = album.count(4);
         BENCH.due("none goes by", album.days(30), 0);
         BENCH.due("no draw either", album.count(4), x);

@@ -14,6 +14,10 @@ public final class FamilyTest {
     }
 
     private static void personIs() {
+        BENCH.due("kin, asked first", Bench.printed("a0,0:2x2;b2,0:1x1").personIs(0, 6), 3);
+        BENCH.due("groups, asked first", Bench.printed("a0,0:2x2;b2,0:1x1").printIs(3), 1);
+        BENCH.due("holds, asked first", Bench.printed("a0,0:1x1;b1,0:1x1;c2,0:1x1").printIs(4), 2);
+        BENCH.due("alone, asked first", Bench.printed("a0,0:2x2;b2,0:1x1;c2,1:1x1;d9,9:1x1").family(0), 8);
         MarginAlbum album = Bench.printed("a0,0:2x2;a5,5:1x1;b15,0:1x1");
         album.pain(0, 51);
         album.days(1);
@@ -42,6 +46,8 @@ public final class FamilyTest {
         }
         BENCH.due("groups", album.printIs(3), 2);
         BENCH.due("alone", album.family(0), 8);
+        Bench.print(album, "a0,0:1x1;b2,0:1x1;c0,2:1x1;d4,4:1x1;e6,4:1x1");
+        BENCH.due("not with a gap", album.family(0), 31);
         Bench.print(album, "a0,0:1x1;a1,0:1x1;b1,1:1x1;c2,2:1x1");
         BENCH.due("not oneself", album.personIs(0, 5), 2);
         BENCH.due("not by a corner", album.personIs(1, 5), 1);

@@ -4,6 +4,7 @@ public final class ShopTest {
 
     public static void main(String[] args) {
         pages();
+        pagesInEveryOrder();
         wrongPages();
         offcuts();
         wrongOffcuts();
@@ -44,6 +45,29 @@ public final class ShopTest {
         duePages(2, 2, 10, 12, 6, 12, 1, 1);
     }
 
+    /** However the cuts are told, the few orders that need fewest pages are found. */
+    private static void pagesInEveryOrder() {
+        dueInEveryOrder(1, new int[] {1, 7, 6, 1, 10, 6}, 0);
+        dueInEveryOrder(1, new int[] {7, 1, 2, 8, 9, 9}, 0);
+        dueInEveryOrder(2, new int[] {13, 12, 5, 1, 11, 6, 4, 10}, 0);
+        dueInEveryOrder(2, new int[] {7, 4, 9, 11, 13, 9, 3, 3, 3, 8}, 0);
+        dueInEveryOrder(2, new int[] {5, 3, 9, 6, 11, 10, 3, 2, 2, 1, 6, 12}, 0);
+    }
+
+    private static void dueInEveryOrder(int fewest, int[] sizes, int placed) {
+        if (2 * placed == sizes.length) {
+            MarginAlbum album = new MarginAlbum();
+            Bench.feed(album, sizes);
+            BENCH.due("fewest pages of " + java.util.Arrays.toString(sizes), album.pages(placed, 1), fewest);
+        }
+        for (int i = placed; 2 * i < sizes.length; i++) {
+            int[] next = sizes.clone();
+            System.arraycopy(sizes, 2 * placed, next, 2 * i, 2);
+            System.arraycopy(sizes, 2 * i, next, 2 * placed, 2);
+            dueInEveryOrder(fewest, next, placed + 1);
+        }
+    }
+
     private static void wrongPages() {
         int[][] wrong = {{0, 1}, {1, 0}, {17, 1}, {1, 13}, {1, 1, 1, 1, 1, 255}};
         for (int[] sizes : wrong) {
@@ -59,6 +83,10 @@ public final class ShopTest {
         BENCH.due("the tape stays", album.count(3), 20);
         BENCH.due("six", album.pages(6, 0), 1);
         BENCH.due("of an empty tape", album.pages(1, 0), -1);
+        for (int n = 1; n <= 6; n++) {
+            album.feed(0x10101010 & 0x0c0c0c0c | 0x01010101, 0x01010101, 0x01010101, 0, 0);
+            BENCH.due("of 20 bytes " + n, album.pages(n, 0), 1);
+        }
     }
 
     private static void dueOffcuts(int length, int many, int bits, int... lengths) {
@@ -152,6 +180,10 @@ public final class ShopTest {
         BENCH.due("the tape stays", album.count(3), 20);
         BENCH.due("just so many", album.told(5, 5, 1, 2), 1);
         BENCH.due("of an empty tape", album.told(1, 0, 1, 0), -1);
+        Bench.feed(album, new int[60]);
+        BENCH.due("11 twos", album.told(1, 11, 1, 0), -1);
+        BENCH.due("13 cuts", album.told(13, 0, 1, 0), -1);
+        BENCH.due("12 cuts, 10 twos", album.told(12, 10, 1, 1), 1);
     }
 
     private static void dueFrames(int straight, int turned, int... sizes) {
@@ -189,5 +221,10 @@ public final class ShopTest {
         BENCH.due("the tape stays", album.count(3), 20);
         BENCH.due("the first bytes only", album.frames(2, false), 2);
         BENCH.due("of an empty tape", album.frames(1, false), -1);
+        int[] same = new int[40];
+        java.util.Arrays.fill(same, 7);
+        Bench.feed(album, same);
+        BENCH.due("11 frames", album.frames(11, false), -1);
+        BENCH.due("10 frames", album.frames(10, false), 1);
     }
 }

@@ -98,7 +98,9 @@ public final class SmallThingsTest {
         album.days(3);
         album.seed(77);
         BENCH.due("keep", album.keep(), 3);
-        Bench.print(album, "c1,1:1x1");
+        Bench.print(album, "c1,1:1x1;c0,0:1x12");
+        album.pain(2, 99);
+        album.days(30);
         Bench.law(album, "l1(p=1);l2(p=2)");
         album.bound(20);
         album.pain(4, 40);
@@ -112,6 +114,8 @@ public final class SmallThingsTest {
         BENCH.due("day", album.count(0), 3);
         BENCH.due("album", album.album(4, 0), -2);
         BENCH.due("how often shown", album.personIs(1, 3), 3);
+        BENCH.due("the cut of a day ago", album.album(1, 2), 16);
+        BENCH.due("the cut of two days ago", album.album(2, 4), 3);
         BENCH.due("shown last", album.personIs(1, 4), 1);
         BENCH.due("x", album.count(4), 77);
         BENCH.due("bound is not kept", album.count(1), 20);
