@@ -142,6 +142,10 @@ public final class DayEdgesTest {
             BENCH.due("then in how many, " + p, album.personIs(p, 3), p == 4 ? 0 : shown[p] + 1);
         }
         BENCH.due("all in the last", album.album(1, 4), 1 + 2 + 4 + 8 + 32);
+        Bench.print(album, "e0,0:15x12;e15,1:1x11;a15,0:1x1;b15,0:1x2");
+        BENCH.due("one cell", album.days(1), 1);
+        dueParts("of one cell", album, 1, 15, 0, 1, 1, 1, 0);
+        BENCH.due("tried: who showed in one cell", album.tried(1, 3), 1);
     }
 
     /** "DRAWS: X = (25173 X + 13849) modulo 65536 (X is THE SEED at first, 1): X modulo 10". */

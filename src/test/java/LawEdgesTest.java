@@ -126,6 +126,12 @@ public final class LawEdgesTest {
         dueLeftOut("w7(1=1);c(v=7)", true);
         dueLeftOut("w7(1=1);c(v=0)", false);
         MarginAlbum album = Bench.printed("b0,0:8x12");
+        Bench.law(album, "w0(1=1);c(p=1);c(1=1)");
+        BENCH.due("by a c behind a w", album.days(1), 96);
+        Bench.law(album, "w0(1=1)");
+        BENCH.due("without a c in the next law", album.days(1), 192);
+        Bench.law(album, "w0(1=1);l0(1=1);h0(1=1)");
+        BENCH.due("without a c in one as long", album.days(1), 192);
         album.pain(1, 50);
         Bench.law(album, "c(1=2)");
         BENCH.due("at the bound, without a c that holds", album.days(1), 192);
@@ -148,6 +154,9 @@ public final class LawEdgesTest {
         BENCH.due("the first h", album.tried(10, 1), 0);
         Bench.law(album, "h0(1=2);h10(1=1)");
         BENCH.due("the first h that holds", album.tried(10, 1), 10);
+        Bench.law(album, "w5(p=9)");
+        BENCH.due("none: 0", album.tried(10, 1), 0);
+        BENCH.due("none for whom it does not hold: 0", album.tried(10, 10), 0);
         Bench.law(album, "w1(p=1);w2(p<3);w3(1=1)");
         album.days(1);
         int[] pain = {2, 1, 2, 3};
