@@ -9,6 +9,8 @@ public final class LawEdgesTest {
         leftOutWhateverThePain();
         theFirstRuleThatHolds();
         partsAndTests();
+        threeTests();
+        lawAfterLaw();
         compared();
         fromTheLeftOn();
         thePerson();
@@ -193,6 +195,70 @@ public final class LawEdgesTest {
         due("w5((1=2)|(1=1))", 5);
         due("w5(1=1&!1=2)", 5);
         due("w5(1=2|!1=2)", 5);
+    }
+
+    /** What of three TESTS A, B, D must hold. */
+    private interface Truth {
+        boolean of(boolean a, boolean b, boolean d);
+    }
+
+    private static void dueTruth(String c, Truth truth) {
+        for (int bits = 0; bits < 8; bits++) {
+            boolean a = (bits & 1) != 0;
+            boolean b = (bits & 2) != 0;
+            boolean d = (bits & 4) != 0;
+            String text = c.replace("A", a ? "1=1" : "1=2").replace("B", b ? "2>1" : "1>1").replace("D", d ? "1<2" : "2<2");
+            due("w5(" + text + ")", truth.of(a, b, d) ? 5 : 0);
+        }
+    }
+
+    /** Each way to put three TESTS together by & | ! ( ), with each of them true and false. */
+    private static void threeTests() {
+        dueTruth("A&B", (a, b, d) -> a && b);
+        dueTruth("A&(B)", (a, b, d) -> a && b);
+        dueTruth("(A)&B", (a, b, d) -> a && b);
+        dueTruth("(A)&(B)&(D)", (a, b, d) -> a && b && d);
+        dueTruth("A&(B)&D", (a, b, d) -> a && b && d);
+        dueTruth("A&(B&D)", (a, b, d) -> a && b && d);
+        dueTruth("(A&B)&D", (a, b, d) -> a && b && d);
+        dueTruth("A|B", (a, b, d) -> a || b);
+        dueTruth("A|(B)", (a, b, d) -> a || b);
+        dueTruth("(A)|B", (a, b, d) -> a || b);
+        dueTruth("(A)|(B)|(D)", (a, b, d) -> a || b || d);
+        dueTruth("A|(B|D)", (a, b, d) -> a || b || d);
+        dueTruth("(A|B)|D", (a, b, d) -> a || b || d);
+        dueTruth("A&B|D", (a, b, d) -> a && b || d);
+        dueTruth("A|B&D", (a, b, d) -> a || b && d);
+        dueTruth("A&(B|D)", (a, b, d) -> a && (b || d));
+        dueTruth("(A|B)&D", (a, b, d) -> (a || b) && d);
+        dueTruth("A|(B&D)", (a, b, d) -> a || b && d);
+        dueTruth("(A&B)|D", (a, b, d) -> a && b || d);
+        dueTruth("A&!B|D", (a, b, d) -> a && !b || d);
+        dueTruth("!A&B", (a, b, d) -> !a && b);
+        dueTruth("!A|B&D", (a, b, d) -> !a || b && d);
+        dueTruth("A&!(B)", (a, b, d) -> a && !b);
+        dueTruth("A|!(B|D)", (a, b, d) -> a || !(b || d));
+        dueTruth("!(A&B)&D", (a, b, d) -> !(a && b) && d);
+        dueTruth("!(A|B)|D", (a, b, d) -> !(a || b) || d);
+        dueTruth("!(A&!(B|!D))", (a, b, d) -> !(a && !(b || !d)));
+        dueTruth("!!A&(!(!B|D))", (a, b, d) -> a && b && !d);
+        dueTruth("A&B&D|B&!D|!A&D", (a, b, d) -> a && b && d || b && !d || !a && d);
+        dueTruth("((A)&((B)))|(((D))&A)", (a, b, d) -> a && b || d && a);
+    }
+
+    /** Each law is as if none had been before, each RULE as if none stood ahead of it. */
+    private static void lawAfterLaw() {
+        String[] laws = {"w5(!1=2&!1=2)", "w5(1=1)", "w5+2*3-1(!(!1=1|1=2))", "w5(1=1)", "w5(!!!1=2)", "w5(!!1=1)", "w5(1=1)",
+            "w5(1=1&1=1&1=1|1=2)", "w5(1=1)", "w5(p=p&!1=2|1=2)", "w5(p=1|v>0)"};
+        int[] due = {5, 5, 10, 5, 5, 5, 5, 5, 5, 5, 5};
+        MarginAlbum album = new MarginAlbum();
+        for (int i = 0; i < laws.length; i++) {
+            BENCH.due(laws[i] + " is a law", Bench.law(album, laws[i]), 1);
+            BENCH.due("after others, " + laws[i], album.tried(1, 11), due[i]);
+        }
+        due("w5(1=1+2/0);w3(!1=2)", 3);
+        due("w5(1=1+2*3/0);w4(1=2&!1=2);w3(!(!1=1))", 3);
+        due("w1+2*3/0(1=2);w3(!1=2)", 3);
     }
 
     /** "E, one of < > =, and E". */

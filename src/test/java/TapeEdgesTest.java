@@ -24,6 +24,7 @@ public final class TapeEdgesTest {
         sizesOfFrames();
         narrowerAndLower();
         orSoWhenTurned();
+        framesAgain();
         wrongFrames();
         check();
         wrongCheck();
@@ -473,6 +474,18 @@ public final class TapeEdgesTest {
         dueFrames(3, 4, 20, 3, 4, 21, 22, 5, 19, 2);
         dueFrames(2, 2, 2, 8, 3, 9);
         dueFrames(2, 3, 1, 9, 10, 2, 3, 11);
+    }
+
+    /** Only the first 2 n bytes are frames, whatever was told before. */
+    private static void framesAgain() {
+        MarginAlbum album = new MarginAlbum();
+        int[][] rows = {{10, 10, 9, 9, 8, 8, 7, 7, 6, 6, 5, 5, 4, 4, 3, 3, 2, 2, 1, 1}, {5, 5}, {11, 11, 12, 12}, {5, 5, 5, 5},
+            {20, 20, 1, 30, 1, 30}, {1, 1}};
+        int[] due = {10, 1, 2, 1, 1, 1};
+        for (int i = 0; i < rows.length; i++) {
+            Bench.feed(album, rows[i]);
+            BENCH.due("frames again " + i, album.frames(rows[i].length / 2, i % 2 == 1), due[i]);
+        }
     }
 
     /** "n 1 to 10", "NONE: no such n, it has not so many (the tape stays)". */
